@@ -276,7 +276,6 @@ public final class LastHappened {
         if (!isStreet(a) || !isStreet(b) || a == b || !isHour(hour) || !isBelow(n, PRICES)) {
             return refuseBad();
         }
-        day.plan(town);
         search.weighPairs(a, b, hour, n, town);
         return search.pairsThatRest();
     }
@@ -763,7 +762,6 @@ public final class LastHappened {
 
         /** How many items were read into the town; -10 less the fault, and the town is not whole. */
         int readInto(Town town) {
-            town.begin(0);
             next = 0;
             for (int items = 0; items <= BYTES; items++) {
                 findToken();

@@ -87,6 +87,7 @@ public final class PromiseTest {
         LastHappened x = row(1);
         x.event(0, 0, 0, 2, 0, 1);
         x.rent(3, 50);
+        x.rent(0, 60);
         x.reading(0, 0, 1);
         x.image(0);
         long kept = x.digest();
@@ -101,6 +102,7 @@ public final class PromiseTest {
         due("town: the text stays", x.count(5), 2);
         due("town: status stays", x.status(0), 1);
         due("town: rents", x.rent(3, 0), 0);
+        due("town: rent of word 0", x.rent(0, 0), 0);
         due("town(0)", x.town(0), 0);
         x.clear();
         due("town: images stay", x.from(0), 1);
@@ -214,6 +216,31 @@ public final class PromiseTest {
         due("a refused event is not undone", x.event(9, 0, 0, 0, 0, 0) + x.count(4), BAD);
     }
 
+    private static void undoneToTheLetter() {
+        LastHappened x = row(1);
+        for (int i = 0; i < 8; i++) {
+            x.event(i % 6, i % 4, 3 * i, 9 - i, i, 15 - i);
+        }
+        LastHappened y = row(1);
+        for (int i = 0; i < 8; i++) {
+            y.event(i % 6, i % 4, 3 * i, 9 - i, i, 15 - i);
+        }
+        x.back(0);
+        x.back(6);
+        x.back(2);
+        x.law(2);
+        for (int i = 0; i < 4; i++) {
+            x.undo();
+        }
+        for (int event = 0; event < 8; event++) {
+            for (int what = 0; what < 10; what++) {
+                due("undone: of(" + event + ", " + what + ")", x.of(event, what), y.of(event, what));
+            }
+        }
+        due("undone: law", x.count(2), 1);
+        due("8 at most, 4 of them undone", x.count(4), 4);
+    }
+
     private static void rent() {
         LastHappened x = new LastHappened();
         due("rent(15, 99)", x.rent(15, 99), 0);
@@ -295,6 +322,12 @@ public final class PromiseTest {
         fault(";", 0);
         fault("tow", 0);
         fault("towns 1;", 0);
+        fault("townz 1;", 0);
+        fault("towna 1;", 0);
+        fault("town{ 1;", 4);
+        fault("town` 1;", 4);
+        fault("town 1/;", 6);
+        fault("town 1:;", 6);
         fault("Town 1;", 0);
         fault("street 0 1 1 1;", 0);
         fault("  rent 1 1;", 2);
@@ -396,6 +429,12 @@ public final class PromiseTest {
         x.event(0, 0, 12, 2, 0, 12);
         due("the hour till which it stands", x.name(0, 12), 112);
         due("till the end", x.name(0, 23), 112);
+        LastHappened y = oneStreet(1);
+        y.event(2, 0, 0, 2, 0, 7);
+        due("a first name stands till hour 0, whatever was asked ahead", y.name(0, 0), 107);
+        due("once more", y.name(0, 0), 107);
+        due("its changes", y.changes(0), 1);
+        due("its changes once more", y.changes(0), 1);
     }
 
     private static void nameBySeen() {
@@ -504,6 +543,9 @@ public final class PromiseTest {
         due("k hours ago to the hour", x.cab(1, 13, 3), 1);
         notCounted(x, "an hour too many", () -> x.cab(1, 13, 4), NONE);
         due("hour 0, if that is earlier", x.cab(3, 3, 23), 0);
+        x.event(0, 0, 1, 2, 0, 8);
+        due("not hour 1", x.cab(3, 3, 23), 0);
+        due("hour 1", x.cab(3, 3, 2), 1);
         bad(x, "k 24", () -> x.cab(0, 23, 24));
         bad(x, "k -1", () -> x.cab(0, 0, -1));
         bad(x, "street 4", () -> x.cab(4, 0, 0));
@@ -525,6 +567,7 @@ public final class PromiseTest {
         due("some streets alone", x.find(3, 0), 10);
         due("streets of unlike names", x.find(5, 0), 0);
         due("one street", x.find(8, 1), 1);
+        due("street 0 alone", x.find(1, 1), 1);
         due("no streets, the hour", x.find(0, 0), 0);
         due("no streets, how many", x.find(0, 1), 0);
         bad(x, "streets 16", () -> x.find(16, 0));
@@ -568,6 +611,12 @@ public final class PromiseTest {
         due("the second of two", x.stage(0, 9, 7, 1), 3);
         notCounted(x, "no third", () -> x.stage(0, 9, 7, 2), -5);
         due("one is enough in an hour that the first reaches", x.stage(0, 9, 3, -1), 1);
+        LastHappened y = oneStreet(1);
+        y.event(2, 0, 6, 2, 4, 6);
+        y.event(0, 0, 9, 2, 4, 7);
+        due("two, later", y.stage(0, 9, 11, -1), 2);
+        due("the first of two, later", y.stage(0, 9, 11, 0), 4);
+        due("the second of two, later", y.stage(0, 9, 11, 1), 7);
     }
 
     private static void stageWithoutRoom() {
@@ -595,13 +644,21 @@ public final class PromiseTest {
         due("the last alone", x.forbid(0), 16);
         x.event(0, 0, 22, 2, 0, 8);
         due("it comes in when the last is gone", x.forbid(0), 48);
+        x.event(0, 0, 23, 2, 9, 8);
+        due("one of hour 23, too", x.forbid(0), 48 + 64);
         LastHappened y = oneStreet(0);
-        y.event(2, 0, 1, 2, 5, 3);
-        y.event(0, 0, 2, 2, 5, 4);
-        y.event(0, 0, 3, 2, 5, 3);
-        y.event(0, 0, 4, 2, 6, 4);
-        y.event(0, 0, 5, 2, 5, 6);
-        due("of like ones the least", y.forbid(0), 8 + 16);
+        y.event(0, 0, 8, 2, 9, 7);
+        y.event(5, 0, 8, 2, 5, 3);
+        y.event(0, 0, 20, 2, 5, 3);
+        y.event(0, 0, 19, 2, 6, 8);
+        due("either 0 or 3: of like ones the least", y.forbid(0), 1);
+        LastHappened z = oneStreet(0);
+        z.event(0, 0, 4, 2, 9, 5);
+        z.event(0, 0, 4, 2, 9, 6);
+        z.event(0, 0, 19, 2, 6, 8);
+        z.event(5, 0, 5, 2, 5, 3);
+        z.event(0, 0, 20, 2, 5, 3);
+        due("2 alone, or 0 and 1: the fewest", z.forbid(0), 4);
         bad(y, "street 1", () -> y.forbid(1));
         bad(y, "street -1", () -> y.forbid(-1));
     }
@@ -637,6 +694,11 @@ public final class PromiseTest {
         x.event(0, 0, 21, 2, 5, 4);
         due("none can stage against the rank", x.landlords(0, 3, 21, 5), 4);
         due("nothing is changed by it", x.count(1), 1);
+        x.rent(4, 9);
+        due("who does not stage has his rent, too", x.landlords(0, 2, 0, 50), 1);
+        due("who stages has more, but not for that", x.landlords(0, 3, 22, 3), 1);
+        due("b has as much either way", x.landlords(0, 3, 22, 2), 1 + 4);
+        due("who stages has more", x.landlords(1, 3, 22, 1), 8);
         bad(x, "alike", () -> x.landlords(1, 1, 0, 0));
         bad(x, "a 4", () -> x.landlords(4, 0, 0, 0));
         bad(x, "a -1", () -> x.landlords(-1, 0, 0, 0));
@@ -656,6 +718,7 @@ public final class PromiseTest {
         due("from the middle, the shorter one first", x.round(1, 3), 3 + 3 + 4);
         due("by a street that is not of them", x.round(0, 4), 3 + 4 + 5);
         due("all of the row", x.round(3, 7), 12);
+        due("the way to one of them, from behind", x.round(3, 1), 5 + 4 + 3);
         notCounted(x, "none reaches", () -> x.round(0, 8), NONE);
         notCounted(x, "none reaches both", () -> x.round(0, 9), NONE);
         notCounted(x, "none from a corner without streets", () -> x.round(7, 1), NONE);
@@ -851,6 +914,7 @@ public final class PromiseTest {
         back();
         law();
         undo();
+        undoneToTheLetter();
         rent();
         typeAndClear();
         readTowns();
