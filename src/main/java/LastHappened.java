@@ -839,12 +839,12 @@ public final class LastHappened {
             }
             start = next;
             if (isLetter(next)) {
-                while (isLetter(next)) {
+                while (next < size && isLetter(next)) {
                     next++;
                 }
                 sort = LETTERS;
             } else if (isFigure(next)) {
-                while (isFigure(next)) {
+                while (next < size && isFigure(next)) {
                     next++;
                 }
                 sort = next - start <= 2 ? NUMBER : NO_TOKEN;
@@ -1321,7 +1321,10 @@ public final class LastHappened {
 
         private int soonest(int gone, int corner) {
             int best = FAR;
-            for (int at = 0; at < CORNERS && isBelow(corner, CORNERS); at++) {
+            if (!isBelow(corner, CORNERS)) {
+                return best;
+            }
+            for (int at = 0; at < CORNERS; at++) {
                 best = Math.min(best, fewest[gone * CORNERS + at] + between[at * CORNERS + corner]);
             }
             return best;
