@@ -617,6 +617,11 @@ public final class PromiseTest {
         due("two, later", y.stage(0, 9, 11, -1), 2);
         due("the first of two, later", y.stage(0, 9, 11, 0), 4);
         due("the second of two, later", y.stage(0, 9, 11, 1), 7);
+        for (int i = 0; i < 6; i++) {
+            y.event(0, 0, 20, 2, 0, i);
+        }
+        due("two, whatever room there is", y.stage(0, 9, 11, -1), 2);
+        due("the second of two, whatever room there is", y.stage(0, 9, 11, 1), 7);
     }
 
     private static void stageWithoutRoom() {
@@ -699,6 +704,10 @@ public final class PromiseTest {
         due("who stages has more, but not for that", x.landlords(0, 3, 22, 3), 1);
         due("b has as much either way", x.landlords(0, 3, 22, 2), 1 + 4);
         due("who stages has more", x.landlords(1, 3, 22, 1), 8);
+        for (int i = 0; i < 7; i++) {
+            x.event(0, 2, 0, 2, 9, 9);
+        }
+        due("both stage, whatever room there is", x.landlords(1, 3, 22, 1), 8);
         bad(x, "alike", () -> x.landlords(1, 1, 0, 0));
         bad(x, "a 4", () -> x.landlords(4, 0, 0, 0));
         bad(x, "a -1", () -> x.landlords(-1, 0, 0, 0));
