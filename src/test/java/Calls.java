@@ -1,5 +1,9 @@
+import java.util.ArrayList;
+import java.util.List;
+
 /** A call on the class by its name, and the count of answers that are not due. */
 final class Calls {
+    private static final int SECONDS = 300;
     static final String[] NAMES = {"town", "street", "event", "back", "law", "undo", "rent", "type", "clear", "read",
         "of", "name", "changes", "which", "letter", "cab", "find", "stage", "forbid", "rents", "landlords", "round",
         "reading", "burn", "truly", "drawn", "image", "from", "status", "count", "digest"};
@@ -9,8 +13,48 @@ final class Calls {
 
     private static int right = 0;
     private static int wrong = 0;
+    private static String part = "";
+    private static int rightAhead = 0;
+    private static int wrongAhead = 0;
+    private static final List<String> parts = new ArrayList<>();
+
+    static {
+        endOnceTooLong();
+    }
 
     private Calls() {
+    }
+
+    /** A call that does not end fails its test, too. */
+    private static void endOnceTooLong() {
+        Thread guard = new Thread(() -> {
+            try {
+                Thread.sleep(1000L * SECONDS);
+            } catch (InterruptedException e) {
+                return;
+            }
+            System.out.println("a call did not end: " + part);
+            System.out.flush();
+            Runtime.getRuntime().halt(1);
+        });
+        guard.setDaemon(true);
+        guard.start();
+    }
+
+    /** What of the document the answers that follow are held against; each part is printed at the end. */
+    static void part(String sentence) {
+        endPart();
+        part = sentence;
+    }
+
+    private static void endPart() {
+        if (!part.isEmpty()) {
+            String failed = wrong > wrongAhead ? ", " + (wrong - wrongAhead) + " NOT" : "";
+            parts.add(part + ": " + (right - rightAhead) + failed);
+        }
+        rightAhead = right;
+        wrongAhead = wrong;
+        part = "";
     }
 
     static void due(String call, long got, long want) {
@@ -20,7 +64,8 @@ final class Calls {
         }
         wrong++;
         if (wrong <= 40) {
-            System.out.println(call + " answered " + got + ", due is " + want);
+            String at = part.isEmpty() ? "" : " (" + part + ")";
+            System.out.println(call + " answered " + got + ", due is " + want + at);
         }
     }
 
@@ -29,6 +74,10 @@ final class Calls {
     }
 
     static void finish(String what) {
+        endPart();
+        for (String each : parts) {
+            System.out.println("          " + each);
+        }
         System.out.println("        " + what + ": " + right + " answers as due, " + wrong + " not");
         System.exit(wrong == 0 ? 0 : 1);
     }

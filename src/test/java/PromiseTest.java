@@ -168,6 +168,14 @@ public final class PromiseTest {
         due("what is first then", x.of(0, 5), 1);
         due("it may be undone", x.undo(), 6);
         due("the first is there again", x.of(0, 5), 0);
+        due("one that comes then is behind all", x.event(0, 0, 0, 2, 9, 15), 6);
+        due("and another", x.event(0, 0, 1, 2, 9, 14), 7);
+        refused(x, "and no more", () -> x.event(0, 0, 0, 0, 0, 0), FULL, 2);
+        for (int left = 7; left >= 0; left--) {
+            due("back to " + left, x.back(left % 2 == 0 ? left : 0), left);
+        }
+        bad(x, "back(0) of none", () -> x.back(0));
+        due("the first of none", x.event(0, 0, 0, 0, 0, 0), 0);
     }
 
     private static void law() {
@@ -916,39 +924,68 @@ public final class PromiseTest {
     }
 
     public static void main(String[] args) {
+        Calls.part("promise 1: a new object");
         newObject();
+        Calls.part("promise 2: town");
         town();
+        Calls.part("promise 3: street");
         street();
+        Calls.part("promise 4: event");
         event();
+        Calls.part("promise 5: back");
         back();
+        Calls.part("promise 6: law");
         law();
+        Calls.part("promise 7: undo");
         undo();
         undoneToTheLetter();
+        Calls.part("promise 8: rent");
         rent();
+        Calls.part("promises 9 and 10: type, clear");
         typeAndClear();
+        Calls.part("promise 11: read");
         readTowns();
         readFaults();
         readEightEvents();
+        Calls.part("promise 12: of");
         of();
+        Calls.part("promise 13: name");
         nameByLaw();
         nameBySeen();
         nameByNumber();
+        Calls.part("promise 14: changes");
         changes();
+        Calls.part("promise 15: which");
         which();
+        Calls.part("promise 16: letter");
         letter();
+        Calls.part("promise 17: cab");
         cab();
+        Calls.part("promise 18: find");
         find();
+        Calls.part("promise 19: stage");
         stage();
+        Calls.part("promise 20: forbid");
         forbid();
+        Calls.part("promise 21: rents");
         rents();
+        Calls.part("promise 22: landlords");
         landlords();
+        Calls.part("promise 23: round");
         round();
+        Calls.part("promises 24 and 25: reading, burn");
         readingAndBurn();
+        Calls.part("promise 26: truly");
         truly();
+        Calls.part("promise 27: drawn");
         drawn();
+        Calls.part("promises 28 and 29: image, from");
         images();
+        Calls.part("promise 30: status");
         status();
+        Calls.part("promise 31: count");
         count();
+        Calls.part("promise 32: digest");
         digest();
         Calls.finish("promises 1 to 32");
     }
