@@ -1,10 +1,15 @@
 import java.util.Arrays;
 import java.util.Random;
 
-/** Runs of calls drawn by a seed, on the class and on the Model: every answer is the same. */
+/** Runs of calls drawn by a seed, one in eight of all 512, on the class and on the Model: every answer is the same. */
 public final class RandomRunsTest {
     private static final int[] WILD = {Integer.MIN_VALUE, -100, -3, -2, -1, 7, 8, 9, 10, 15, 16, 23, 24, 30, 31, 32, 63,
         64, 99, 100, 101, 127, 128, 999999, 1000000, Integer.MAX_VALUE};
+
+    // An object is used for so many calls; so many of them a run ends with, so many at most a text takes.
+    private static final int LIFE = 512;
+    private static final int LAST_CALLS = 4;
+    private static final int TEXT_CALLS = 153;
 
     private final Random random;
     private final LastHappened tested = new LastHappened();
@@ -181,10 +186,10 @@ public final class RandomRunsTest {
         } else {
             begin();
         }
-        int last = 200 + random.nextInt(100);
+        int last = run % 8 == 0 ? LIFE - LAST_CALLS : 200 + random.nextInt(100);
         while (same && calls < last) {
             callAny();
-            if (random.nextInt(100) == 0) {
+            if (random.nextInt(100) == 0 && calls + TEXT_CALLS <= last) {
                 readText();
             }
         }
